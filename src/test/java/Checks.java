@@ -1,0 +1,60 @@
+/** Counts the answers that are not as due, and reads THE RESULT of a printer. */
+final class Checks {
+    private static final int SHOWN = 20;
+
+    private int wrong;
+
+    void due(String call, Object got, Object want) {
+        if (!got.equals(want)) {
+            wrong++;
+            if (wrong <= SHOWN) {
+                System.out.println(call + " answered " + got + ", due is " + want);
+            }
+        }
+    }
+
+    void printed(ShortestPrinter printer, long bits, String want) {
+        int length = printer.print(bits);
+        due("print(" + bits + ")", length, want.length());
+        due("text of print(" + bits + ")", text(printer, length), want);
+    }
+
+    void printedFloat(ShortestPrinter printer, int bits, String want) {
+        int length = printer.printFloat(bits);
+        due("printFloat(" + bits + ")", length, want.length());
+        due("text of printFloat(" + bits + ")", text(printer, length), want);
+    }
+
+    /** Every byte of THE RESULT read by word, zeros behind its end told as #. */
+    static String text(ShortestPrinter printer, int length) {
+        StringBuilder text = new StringBuilder();
+        for (int i = 0; i < length; i += 8) {
+            long word = printer.word(i);
+            for (int k = 0; k < 8; k++) {
+                char letter = (char) (word >>> (56 - 8 * k) & 0xFF);
+                if (i + k < length) {
+                    text.append(letter == 0 ? '#' : letter);
+                } else if (letter != 0) {
+                    text.append(" and behind the end ").append(letter);
+                }
+            }
+        }
+        return text.toString();
+    }
+
+    /** The name of what word(i) throws, or its answer. */
+    static String wordOrThrown(ShortestPrinter printer, int i) {
+        try {
+            return Long.toString(printer.word(i));
+        } catch (RuntimeException thrown) {
+            return thrown.getClass().getSimpleName();
+        }
+    }
+
+    void end() {
+        if (wrong != 0) {
+            System.out.println(wrong + " answers are not as due");
+            System.exit(1);
+        }
+    }
+}
