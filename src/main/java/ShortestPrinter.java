@@ -160,9 +160,10 @@ public final class ShortestPrinter {
     /**
      * The SHORTEST decimal of x = c 2^q, as 0.d1 d2 .. 10^point.
      *
-     * With the first n digits of x as the number d, d and d + 1 are the nearest decimals of n digits
-     * below and above x. All rows count the same fraction of the place of the last digit:
-     * whole is that place, rest what x has beyond d, below and above how far from x R reaches.
+     * If d are the first n digits of x, then of all decimals of n digits d is the nearest one at or
+     * below x, and d + 1, in its last place, the nearest one above: no other can be SHORTEST.
+     * The rows share one measure: whole is a one in the last place of d, rest is what x has
+     * beyond d, and below and above are how far R reaches on either side of x.
      */
     private static final class Shortest {
         private static final int LEAST_DIGITS = 2;
@@ -297,7 +298,7 @@ public final class ShortestPrinter {
 
     /** A whole number, not negative, in a row of its own that is used again. */
     private static final class Natural {
-        // 896 bits; the rows of a double need fewer than 800.
+        // The longest rows are those of doubles near the least and the greatest one: below 800 bits.
         private static final int MOST_LIMBS = 28;
         private static final int LIMB_BITS = 32;
         private static final long LIMB_MASK = 0xFFFFFFFFL;

@@ -1,8 +1,12 @@
 /** Counts the answers that are not as due, and reads THE RESULT of a printer. */
 final class Checks {
     private static final int SHOWN = 20;
+    // A print and its words are four calls at most, and an object serves 512.
+    private static final int PRINTS_OF_AN_OBJECT = 128;
 
     private int wrong;
+    private int prints;
+    private ShortestPrinter printer;
 
     void due(String call, Object got, Object want) {
         if (!got.equals(want)) {
@@ -13,16 +17,25 @@ final class Checks {
         }
     }
 
-    void printed(ShortestPrinter printer, long bits, String want) {
+    void printed(long bits, String want) {
+        renewPrinter();
         int length = printer.print(bits);
         due("print(" + bits + ")", length, want.length());
         due("text of print(" + bits + ")", text(printer, length), want);
     }
 
-    void printedFloat(ShortestPrinter printer, int bits, String want) {
+    void printedFloat(int bits, String want) {
+        renewPrinter();
         int length = printer.printFloat(bits);
         due("printFloat(" + bits + ")", length, want.length());
         due("text of printFloat(" + bits + ")", text(printer, length), want);
+    }
+
+    private void renewPrinter() {
+        if (prints % PRINTS_OF_AN_OBJECT == 0) {
+            printer = new ShortestPrinter();
+        }
+        prints++;
     }
 
     /** Every byte of THE RESULT read by word, zeros behind its end told as #. */

@@ -1,7 +1,6 @@
 /** Promise 3: printFloat. */
 public final class PrintFloatTest {
     private static final Checks CHECKS = new Checks();
-    private static final ShortestPrinter PRINTER = new ShortestPrinter();
 
     public static void main(String[] args) {
         notFinite();
@@ -16,14 +15,14 @@ public final class PrintFloatTest {
     }
 
     private static void notFinite() {
-        CHECKS.printedFloat(PRINTER, 0x7F800000, "Infinity");
-        CHECKS.printedFloat(PRINTER, 0xFF800000, "-Infinity");
-        CHECKS.printedFloat(PRINTER, 0x7FC00000, "NaN");
-        CHECKS.printedFloat(PRINTER, 0xFFC00000, "NaN");
-        CHECKS.printedFloat(PRINTER, 0x7F800001, "NaN");
-        CHECKS.printedFloat(PRINTER, 0xFF800001, "NaN");
-        CHECKS.printedFloat(PRINTER, -1, "NaN");
-        CHECKS.printedFloat(PRINTER, Integer.MAX_VALUE, "NaN");
+        CHECKS.printedFloat(0x7F800000, "Infinity");
+        CHECKS.printedFloat(0xFF800000, "-Infinity");
+        CHECKS.printedFloat(0x7FC00000, "NaN");
+        CHECKS.printedFloat(0xFFC00000, "NaN");
+        CHECKS.printedFloat(0x7F800001, "NaN");
+        CHECKS.printedFloat(0xFF800001, "NaN");
+        CHECKS.printedFloat(-1, "NaN");
+        CHECKS.printedFloat(Integer.MAX_VALUE, "NaN");
     }
 
     private static void ordinary() {
@@ -102,10 +101,10 @@ public final class PrintFloatTest {
     }
 
     private static void printed(float x, String want) {
-        CHECKS.printedFloat(PRINTER, Float.floatToRawIntBits(x), want);
+        CHECKS.printedFloat(Float.floatToRawIntBits(x), want);
     }
 
     private static void asTheOracleSays(int bits) {
-        CHECKS.printedFloat(PRINTER, bits, Oracle.printedFloat(bits));
+        CHECKS.printedFloat(bits, Oracle.printedFloat(bits));
     }
 }

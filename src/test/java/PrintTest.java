@@ -1,7 +1,6 @@
 /** Promise 2: print. */
 public final class PrintTest {
     private static final Checks CHECKS = new Checks();
-    private static final ShortestPrinter PRINTER = new ShortestPrinter();
 
     public static void main(String[] args) {
         notFinite();
@@ -18,14 +17,14 @@ public final class PrintTest {
     }
 
     private static void notFinite() {
-        CHECKS.printed(PRINTER, 0x7FF0000000000000L, "Infinity");
-        CHECKS.printed(PRINTER, 0xFFF0000000000000L, "-Infinity");
-        CHECKS.printed(PRINTER, 0x7FF8000000000000L, "NaN");
-        CHECKS.printed(PRINTER, 0xFFF8000000000000L, "NaN");
-        CHECKS.printed(PRINTER, 0x7FF0000000000001L, "NaN");
-        CHECKS.printed(PRINTER, 0xFFF0000000000001L, "NaN");
-        CHECKS.printed(PRINTER, -1L, "NaN");
-        CHECKS.printed(PRINTER, Long.MAX_VALUE, "NaN");
+        CHECKS.printed(0x7FF0000000000000L, "Infinity");
+        CHECKS.printed(0xFFF0000000000000L, "-Infinity");
+        CHECKS.printed(0x7FF8000000000000L, "NaN");
+        CHECKS.printed(0xFFF8000000000000L, "NaN");
+        CHECKS.printed(0x7FF0000000000001L, "NaN");
+        CHECKS.printed(0xFFF0000000000001L, "NaN");
+        CHECKS.printed(-1L, "NaN");
+        CHECKS.printed(Long.MAX_VALUE, "NaN");
     }
 
     private static void ordinary() {
@@ -138,10 +137,10 @@ public final class PrintTest {
     }
 
     private static void printed(double x, String want) {
-        CHECKS.printed(PRINTER, Double.doubleToRawLongBits(x), want);
+        CHECKS.printed(Double.doubleToRawLongBits(x), want);
     }
 
     private static void asTheOracleSays(long bits) {
-        CHECKS.printed(PRINTER, bits, Oracle.printed(bits));
+        CHECKS.printed(bits, Oracle.printed(bits));
     }
 }

@@ -24,7 +24,7 @@ public final class WordTest {
         for (int i = 0; i < text.length(); i++) {
             checks.due(text + ", word(" + i + ")", printer.word(i), wordOf(text, i));
         }
-        for (int i = text.length(); i < text.length() + 40; i++) {
+        for (int i = text.length(); i < text.length() + 10; i++) {
             refused(checks, printer, text, i);
         }
         for (int i : NO_BYTES) {
