@@ -317,9 +317,14 @@ public final class ShortestPrinter {
         /** value 5^fives 2^twos. */
         void setProduct(long value, int fives, int twos) {
             clear();
-            limbs[0] = (int) value;
-            limbs[1] = (int) (value >>> LIMB_BITS);
-            used = 2;
+            int first = Math.min(twos / LIMB_BITS, MOST_LIMBS - 2);
+            limbs[first] = (int) value;
+            limbs[first + 1] = (int) (value >>> LIMB_BITS);
+            used = first + 2;
+            // Two steps, as the factor of one step has to stay a positive int.
+            int odd = twos % LIMB_BITS;
+            multiply(1 << (odd / 2));
+            multiply(1 << (odd - odd / 2));
             int left = fives;
             for (; left >= FIVES_OF_A_LIMB; left -= FIVES_OF_A_LIMB) {
                 multiply(FIVE_TO_13);
@@ -329,7 +334,6 @@ public final class ShortestPrinter {
                 factor *= 5;
             }
             multiply(factor);
-            shiftLeft(twos);
         }
 
         void multiply(int factor) {
@@ -387,21 +391,6 @@ public final class ShortestPrinter {
                 limbs[used] = limb;
                 used++;
             }
-        }
-
-        private void shiftLeft(int bits) {
-            // Two steps, as the factor of one step has to stay a positive int.
-            int odd = bits % LIMB_BITS;
-            multiply(1 << (odd / 2));
-            multiply(1 << (odd - odd / 2));
-            int move = Math.min(bits / LIMB_BITS, MOST_LIMBS - used);
-            for (int i = used - 1; i >= 0; i--) {
-                limbs[i + move] = limbs[i];
-            }
-            for (int i = 0; i < move; i++) {
-                limbs[i] = 0;
-            }
-            used += move;
         }
     }
 }
