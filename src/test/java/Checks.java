@@ -5,10 +5,12 @@ final class Checks {
     private static final int PRINTS_OF_AN_OBJECT = 128;
 
     private int wrong;
+    private int asked;
     private int prints;
     private ShortestPrinter printer;
 
     void due(String call, Object got, Object want) {
+        asked++;
         if (!got.equals(want)) {
             wrong++;
             if (wrong <= SHOWN) {
@@ -31,6 +33,14 @@ final class Checks {
         due("text of printFloat(" + bits + ")", text(printer, length), want);
     }
 
+    void doubleIs(double x, String want) {
+        printed(Double.doubleToRawLongBits(x), want);
+    }
+
+    void floatIs(float x, String want) {
+        printedFloat(Float.floatToRawIntBits(x), want);
+    }
+
     private void renewPrinter() {
         if (prints % PRINTS_OF_AN_OBJECT == 0) {
             printer = new ShortestPrinter();
@@ -38,11 +48,27 @@ final class Checks {
         prints++;
     }
 
-    /** Every byte of THE RESULT read by word, zeros behind its end told as #. */
+    /** THE RESULT is this text: each of its bytes is one, and those around it are none. */
+    void holds(String when, ShortestPrinter printer, String want) {
+        due(when, text(printer, want.length()), want);
+        refuses(when, printer, -1);
+        refuses(when, printer, want.length());
+    }
+
+    void refuses(String when, ShortestPrinter printer, int i) {
+        due(when + ", word(" + i + ")", wordOrThrown(printer, i), "IndexOutOfBoundsException");
+    }
+
+    /** Every byte that should be one of THE RESULT read by word, zeros among them told as #. */
     static String text(ShortestPrinter printer, int length) {
         StringBuilder text = new StringBuilder();
         for (int i = 0; i < length; i += 8) {
-            long word = printer.word(i);
+            long word;
+            try {
+                word = printer.word(i);
+            } catch (RuntimeException thrown) {
+                return text + " and word(" + i + ") throws " + thrown.getClass().getSimpleName();
+            }
             for (int k = 0; k < 8; k++) {
                 char letter = (char) (word >>> (56 - 8 * k) & 0xFF);
                 if (i + k < length) {
@@ -64,7 +90,20 @@ final class Checks {
         }
     }
 
+    /** The eight letters of a text from i on as a word, zeros behind its end. */
+    static long wordOf(String text, int i) {
+        long word = 0;
+        for (int k = i; k < i + 8; k++) {
+            word = word << 8 | (k < text.length() ? text.charAt(k) : 0);
+        }
+        return word;
+    }
+
     void end() {
+        if (asked == 0) {
+            System.out.println("nothing was asked");
+            System.exit(1);
+        }
         if (wrong != 0) {
             System.out.println(wrong + " answers are not as due");
             System.exit(1);

@@ -1,47 +1,40 @@
-/** Promise 4: word. */
+/** Promise 4: "8 bytes (codes of its letters) of THE RESULT from i on, the highest first". */
 public final class WordTest {
-    private static final int[] NO_BYTES = {Integer.MIN_VALUE, Integer.MIN_VALUE + 7, -8, -7, -1, Integer.MAX_VALUE - 7, Integer.MAX_VALUE};
+    private static final Checks CHECKS = new Checks();
 
     public static void main(String[] args) {
-        Checks checks = new Checks();
-        ShortestPrinter printer = new ShortestPrinter();
-
-        // Longer before shorter: bytes of an earlier RESULT must not be seen again.
-        everyWord(checks, printer, printer.print(Double.doubleToRawLongBits(-1.2345678901234568E-300)), "-1.2345678901234568E-300");
-        everyWord(checks, printer, printer.print(Double.doubleToRawLongBits(1234567.875)), "1234567.875");
-        everyWord(checks, printer, printer.printFloat(Float.floatToRawIntBits(-123.25f)), "-123.25");
-        everyWord(checks, printer, printer.printFloat(Float.floatToRawIntBits(-1234.5f * 1000)), "-1234500.0");
-        everyWord(checks, printer, printer.print(Double.doubleToRawLongBits(12345.75)), "12345.75");
-        everyWord(checks, printer, printer.print(0), "0.0");
-        everyWord(checks, printer, printer.printFloat(0x7FC00000), "NaN");
-        checks.due("\"NaN\" as a word", printer.word(0), 0x4E614E0000000000L);
-        checks.due("its last letter", printer.word(2), 0x4E00000000000000L);
-        checks.end();
+        writtenOut();
+        for (String text : Texts.OF_DOUBLES) {
+            fullWords(text, Texts.printed(text));
+        }
+        for (String text : Texts.OF_FLOATS) {
+            fullWords(text, Texts.printedFloat(text));
+        }
+        changesNothing();
+        CHECKS.end();
     }
 
-    private static void everyWord(Checks checks, ShortestPrinter printer, int length, String text) {
-        checks.due("bytes of " + text, length, text.length());
-        for (int i = 0; i < text.length(); i++) {
-            checks.due(text + ", word(" + i + ")", printer.word(i), wordOf(text, i));
-        }
-        for (int i = text.length(); i < text.length() + 10; i++) {
-            refused(checks, printer, text, i);
-        }
-        for (int i : NO_BYTES) {
-            refused(checks, printer, text, i);
-        }
-        checks.due("after refused words", Checks.text(printer, length), text);
+    private static void writtenOut() {
+        ShortestPrinter printer = Texts.printed("-Infinity");
+        CHECKS.due("-Infinit as a word", printer.word(0), 0x2D496E66696E6974L);
+        CHECKS.due("Infinity as a word", printer.word(1), 0x496E66696E697479L);
+        CHECKS.due("12345.75 as a word", Texts.printed("12345.75").word(0), 0x31323334352E3735L);
+        CHECKS.due("809E-300 as a word", Texts.printed("6.0809E-300").word(3), 0x383039452D333030L);
     }
 
-    private static void refused(Checks checks, ShortestPrinter printer, String text, int i) {
-        checks.due(text + ", word(" + i + ")", Checks.wordOrThrown(printer, i), "IndexOutOfBoundsException");
+    /** From every byte that has seven more behind it. */
+    private static void fullWords(String text, ShortestPrinter printer) {
+        for (int i = 0; i + 8 <= text.length(); i++) {
+            CHECKS.due(text + ", word(" + i + ")", printer.word(i), Checks.wordOf(text, i));
+        }
     }
 
-    private static long wordOf(String text, int i) {
-        long word = 0;
-        for (int k = i; k < i + 8; k++) {
-            word = word * 256 + (k < text.length() ? text.charAt(k) : 0);
+    private static void changesNothing() {
+        ShortestPrinter printer = Texts.printed("-Infinity");
+        for (int i = 0; i < 100; i++) {
+            CHECKS.due("word(1) again", printer.word(1), 0x496E66696E697479L);
+            CHECKS.due("word(8) again", printer.word(8), 0x7900000000000000L);
         }
-        return word;
+        CHECKS.holds("after many words", printer, "-Infinity");
     }
 }
